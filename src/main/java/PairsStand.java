@@ -12,7 +12,7 @@ public final class PairsStand {
     private static final int MOST_TABLES = 20, POINTS = 8, MOST_LINES = 3;
     private static final int SHEETS = 4, MOST_CELLS = 30, HANDS = 4;
 
-    /** How many numbers A and B of a PAIR have together, and how far apart its two ROWS stand in a book. */
+    /** How many numbers A and B of a PAIR have together: so far apart PAIRS stand where all numbers are in one row. */
     private static final int BOTH = 2 * MOST_WIDE;
 
     private static final int SUM = 1, TURN = 2, TWICE = 3, LOW = 4, FLAT = 5;
@@ -131,7 +131,6 @@ public final class PairsStand {
             return STATE;
         }
         now.pairs--;
-        now.names[now.pairs] = NO_NAME;
         return now.pairs;
     }
 
@@ -784,7 +783,7 @@ public final class PairsStand {
             return set >= 0 && set < 1 << pairs;
         }
 
-        /** The caller has seen that there is room. A dropped PAIR's numbers may still stand there. */
+        /** The caller has seen that there is room. What a dropped PAIR had may still stand there. */
         int append(int kind, int weight) {
             int added = pairs;
             kinds[added] = kind;
@@ -1181,10 +1180,10 @@ public final class PairsStand {
         }
 
         private long product(long a, long b) {
-            long product = a * b;
+            long times = a * b;
             // The least long, turned, is itself: dividing by -1 would not show that it is too great.
-            isMuch |= b == -1 ? a == Long.MIN_VALUE : b != 0 && product / b != a;
-            return product;
+            isMuch |= b == -1 ? a == Long.MIN_VALUE : b != 0 && times / b != a;
+            return times;
         }
     }
 

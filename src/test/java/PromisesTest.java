@@ -67,6 +67,11 @@ public final class PromisesTest {
         return edges(7, 4, 0, 1, 2, 3, 0, 2, 1, 3);
     }
 
+    /** Ten PAIRS; the only three that stand together are 3, 8, 9 and 4, 7, 9. */
+    private static PairsStand ten() {
+        return edges(97, 6, 0, 1, 0, 2, 0, 3, 0, 4, 0, 5, 1, 2, 1, 3, 1, 4, 1, 5, 2, 3);
+    }
+
     private static void sheetOf(PairsStand x, int s, int sort, long... cells) {
         x.sheet(s, sort, cells.length);
         for (int i = 0; i < cells.length; i++) {
@@ -279,6 +284,8 @@ public final class PromisesTest {
         due("what -1", x.told(1, -1), BAD);
         due("pair 4", x.told(4, 0), BAD);
         due("pair -1", x.told(-1, 3), BAD);
+        due("of ten, queue", ten().told(9, 2), 9);
+        due("of ten, rank", ten().told(9, 4), 2);
     }
 
     private static void number() {
@@ -308,6 +315,7 @@ public final class PromisesTest {
         x.entry(3, 1, 0, -99);
         due("rest of what is below 0", x.number(3, 0, 0), 6);
         due("rest of -297", x.number(3, 1, 0), 4);
+        due("of ten", ten().number(9, 1, 3), 1);
     }
 
     private static void drop() {
@@ -354,6 +362,9 @@ public final class PromisesTest {
         due("free again", x.name(0, text("b")), 1);
         due("then another may", x.name(1, text("a")), 1);
         due("it lost the one it had", x.named(text("aa")), NONE);
+        PairsStand ten = pairsNamed("j", "i", "h", "g", "f", "e", "d", "c", "b", "a");
+        due("of ten", ten.name(9, text("j")), STATE);
+        due("of ten", ten.count(3), 10);
     }
 
     private static void named() {
@@ -366,6 +377,9 @@ public final class PromisesTest {
         due("a gap", x.named(text("a\0a")), BAD);
         due("below 0", x.named(Long.MIN_VALUE), BAD);
         due("without pairs", new PairsStand().named(text("a")), NONE);
+        PairsStand ten = pairsNamed("j", "i", "h", "g", "f", "e", "d", "c", "b", "a");
+        due("of ten", ten.named(text("a")), 9);
+        due("of ten", ten.named(text("k")), NONE);
     }
 
     private static void unname() {
@@ -390,6 +404,10 @@ public final class PromisesTest {
         due("nameAt(-1)", x.nameAt(-1), PLACE);
         due("nameAt(MIN)", x.nameAt(MIN), PLACE);
         due("nameAt(MAX)", x.nameAt(MAX), PLACE);
+        PairsStand ten = pairsNamed("j", "i", "h", "g", "f", "e", "d", "c", "b", "a");
+        due("of ten", ten.nameAt(9), text("j"));
+        due("of ten", ten.nameAt(0), text("a"));
+        due("of ten", ten.nameAt(10), PLACE);
     }
 
     // ---- what stands
@@ -438,6 +456,10 @@ public final class PromisesTest {
         PairsStand narrow = edges(7, 1, 0, 1);
         due("too narrow", narrow.stands(1), 0);
         due("empty", narrow.stands(0), 1);
+        due("of ten", ten().stands(bits(3, 8, 9)), 1);
+        due("of ten", ten().stands(bits(3, 7, 9)), 0);
+        due("of ten", ten().stands(1023), 0);
+        due("of ten", ten().stands(1024), BAD);
     }
 
     private static void most() {
@@ -451,6 +473,7 @@ public final class PromisesTest {
         x.set(1, 0, 5);
         x.set(3, 0, 5);
         due("FLAT ones", x.most(), 1);
+        due("of ten", ten().most(), 3);
     }
 
     private static void best() {
@@ -478,6 +501,10 @@ public final class PromisesTest {
         due("none stands: sets", flat.best(1), 1);
         due("none stands: in each", flat.best(2), 0);
         due("none stands: in any", flat.best(3), 0);
+        due("of ten: BEST", ten().best(0), bits(4, 7, 9));
+        due("of ten: sets", ten().best(1), 2);
+        due("of ten: in each", ten().best(2), bits(9));
+        due("of ten: in any", ten().best(3), bits(3, 4, 7, 8, 9));
     }
 
     private static PairsStand weighted(int... weights) {
@@ -501,6 +528,11 @@ public final class PromisesTest {
         due("weight", x.heavy(1), 6);
         due("all weigh 0", weighted(0, 0, 0, 0, 0).heavy(0), 0);
         due("all weigh 0", weighted(0, 0, 0, 0, 0).heavy(1), 0);
+        due("of ten", ten().heavy(0), bits(4, 7, 9));
+        PairsStand ten = ten();
+        ten.set(8, 1, 2);
+        due("of ten", ten.heavy(0), bits(3, 8, 9));
+        due("of ten", ten.heavy(1), 4);
         due("2", x.heavy(2), BAD);
         due("-1", x.heavy(-1), BAD);
     }
@@ -519,6 +551,8 @@ public final class PromisesTest {
         due("queue(7)", x.queue(7), PLACE);
         due("queue(-1)", x.queue(-1), PLACE);
         due("queue(MAX)", x.queue(MAX), PLACE);
+        due("of ten", ten().queue(9), 9);
+        due("of ten", ten().queue(10), PLACE);
     }
 
     private static void greedy() {
@@ -535,6 +569,8 @@ public final class PromisesTest {
         due("what doesn't stand is passed over", x.greedy(0), 3);
         due("weight", x.greedy(1), 12);
         due("those of no weight come too", weighted(0, 0, 0, 0, 0).greedy(0), 3);
+        due("of ten", ten().greedy(0), bits(0, 9));
+        due("of ten", ten().greedy(1), 2);
         due("2", x.greedy(2), BAD);
         due("-1", x.greedy(-1), BAD);
     }
@@ -558,6 +594,14 @@ public final class PromisesTest {
         due("the last one leaves", last.better(3), bits(0, 2, 3));
         PairsStand one = edges(7, 6, 2, 3, 2, 4, 3, 5, 0, 1);
         due("one more is ahead of two for one", one.better(1), bits(1, 2, 3));
+        PairsStand star = edges(7, 4, 0, 1, 0, 2, 0, 3);
+        for (int p = 0; p < 3; p++) {
+            due("one for one is no better", star.better(1 << p), 1 << p);
+        }
+        due("of ten", ten().better(bits(0, 9)), bits(3, 8, 9));
+        due("of ten", ten().better(0), bits(3, 8, 9));
+        due("of ten", ten().better(bits(4, 7, 9)), bits(4, 7, 9));
+        due("of ten", ten().better(1024), BAD);
     }
 
     // ---- tables
@@ -589,6 +633,11 @@ public final class PromisesTest {
             due("wrong", x.table(one[0], one[1], one[2]), BAD);
         }
         due("without pairs", withSheet(7, 4, 3).table(0, 1, 2), 0);
+        PairsStand ten = ten();
+        sheetOf(ten, 0, 0, 1, 2, 3, 4, 5, 6, 7, 8, 9, -10);
+        due("of ten", ten.table(0, 2, 3), 87);
+        due("of ten", ten.table(0, 5, 1), 88);
+        due("of ten", ten.table(0, 5, 4), 0);
     }
 
     private static PairsStand withSheet(int prime, int wide, long... cells) {
@@ -619,6 +668,11 @@ public final class PromisesTest {
         k4.field(3, 4);
         sheetOf(k4, 0, 0, 1, 1, 0, 0, 1, -1);
         due("by 3", k4.half(0), 2);
+        PairsStand ten = ten();
+        sheetOf(ten, 0, 0, 1, 1, 1, 1, 1, 1, 1, 1, 1, 1);
+        due("of ten", ten.half(0), 2);
+        ten.cell(0, 8, 2);
+        due("of ten", ten.half(0), 3);
     }
 
     private static void root() {
@@ -642,6 +696,11 @@ public final class PromisesTest {
         due("-1", x.root(-1), BAD);
         due("4", x.root(4), BAD);
         due("without pairs", withSheet(7, 6, 3).root(0), 0);
+        PairsStand ten = ten();
+        sheetOf(ten, 0, 0, 1, 1, 1, 1, 1, 1, 1, 1, 2, 1);
+        due("of ten", ten.root(0), -1);
+        ten.cell(0, 8, 1);
+        due("of ten", ten.root(0), 0);
     }
 
     /** Sums and products on the way to a number of the TABLE. */
@@ -649,8 +708,8 @@ public final class PromisesTest {
         PairsStand x = edges(97, 2, 0, 1, 0, 1, 1, 0);
         long[][] cells = {{1L << 31, -1, 0}, {Long.MIN_VALUE, Long.MAX_VALUE, 0}, {Long.MAX_VALUE, 1, 1},
             {Long.MIN_VALUE, -1, -1}, {Long.MAX_VALUE, Long.MIN_VALUE, Long.MIN_VALUE}, {-1, 0, Long.MAX_VALUE},
-            {0, Long.MAX_VALUE, Long.MAX_VALUE}, {MAX, 0, 0}, {MIN, 0, 0}, {0, 0, MIN}};
-        long[] want = {MAX, -1, MUCH, MUCH, MUCH, MUCH, 0, MAX, MIN, MUCH};
+            {0, Long.MAX_VALUE, Long.MAX_VALUE}, {MAX, 0, 0}, {MIN, 0, 0}, {0, 0, MIN}, {Long.MAX_VALUE, 0, Long.MIN_VALUE}};
+        long[] want = {MAX, -1, MUCH, MUCH, MUCH, MUCH, 0, MAX, MIN, MUCH, MUCH};
         for (int k = 0; k < want.length; k++) {
             sheetOf(x, 3, 1, cells[k]);
             due("sum " + k, x.root(3), want[k]);
@@ -686,6 +745,13 @@ public final class PromisesTest {
         due("too great, though it is taken 0 times", z.root(0), MUCH);
         sheetOf(z, 0, 0, MIN, MIN, MAX, 1, MAX, MIN);
         due("not too great, taken 0 times", z.root(0), 0);
+        PairsStand less = edges(97, 6, 0, 1, 2, 3, 4, 5, 0, 2, 1, 3, 0, 3, 1, 2);
+        sheetOf(less, 0, 0, -(1 << 23), 1 << 20, 1 << 20, -1, 1, 0, 0);
+        due("taken away, within 64 bits", less.root(0), Long.MIN_VALUE + (1 << 20));
+        sheetOf(less, 0, 0, -(1 << 23), 1 << 20, 1 << 20, 1, 1, 0, 0);
+        due("taken away, beyond 64 bits", less.root(0), MUCH);
+        sheetOf(less, 0, 0, -(1 << 23), 1 << 20, 1 << 20, 1, 1, 1, 1);
+        due("beyond 64 bits and back", less.root(0), MUCH);
     }
 
     private static int drawn(int z) {
@@ -779,6 +845,12 @@ public final class PromisesTest {
         sheetOf(y, 0, 0, 1, 1, 1, 2);
         due("an axis that rows are made of", y.cover(0, 4), 1 + 2 + 0);
         due("no axis", y.cover(0, 0), 4);
+        PairsStand ten = ten();
+        sheetOf(ten, 0, 0);
+        due("of ten", ten.cover(0, 0), 10);
+        due("of ten", ten.cover(0, 3), 3);
+        sheetOf(ten, 0, 0, 1, 1, 1, 1, 1, 1, 1, 1, 1, 2);
+        due("of ten", ten.cover(0, 0), 4);
     }
 
     private static void cheap() {
@@ -801,6 +873,10 @@ public final class PromisesTest {
         due("what -1", odd.cheap(0, -1), BAD);
         due("without pairs", new PairsStand().cheap(0, 0), 0);
         due("without pairs", new PairsStand().cheap(1, 1), 0);
+        due("of ten", ten().cheap(0, 0), 3);
+        due("of ten", ten().cheap(0, 1), 0);
+        due("of ten", ten().cheap(1, 0), 3);
+        due("of ten", ten().cheap(1, 1), 3);
     }
 
     // ---- rays
@@ -862,6 +938,8 @@ public final class PromisesTest {
         due("pair -1", x.rayOf(-1, 0), BAD);
         due("row 2", x.rayOf(0, 2), BAD);
         due("row -1", x.rayOf(0, -1), BAD);
+        due("of ten", ten().rayOf(9, 0), 3);
+        due("of ten", ten().rayOf(9, 1), 2);
     }
 
     // ---- nets
@@ -939,6 +1017,10 @@ public final class PromisesTest {
         due("none", none.feedback(0), 0);
         due("none", none.feedback(1), 0);
         due("none", none.feedback(2), 1);
+        PairsStand late = net(0, 6, 6, 7, 7, 0, 1, 6, 1, 7);
+        due("a greater set comes first", late.feedback(0), 1);
+        due("a greater set comes first", late.feedback(1), bits(6));
+        due("a greater set comes first", late.feedback(2), 2);
     }
 
     // ---- hands
@@ -1030,12 +1112,24 @@ public final class PromisesTest {
         y.hold(1, 2, 0);
         due("a number that lacks is ahead", y.compare(1, 0), -1);
         due("a number that lacks is ahead", y.compare(0, 1), 1);
+        y.field(7, 4);
+        y.entry(0, 0, 3, 0);
+        y.entry(0, 0, 0, 2);
+        y.hold(3, 2, 1);
+        due("by number 0 first", y.compare(0, 3), -1);
+        due("by number 0 first", y.compare(3, 0), 1);
+        y.entry(0, 0, 0, 0);
+        y.entry(0, 0, 3, 1);
         y.field(7, 6);
         y.hold(2, 2, 0);
         due("a number is ahead of length", y.compare(2, 1), -1);
         y.field(13, 2);
         y.hold(2, 2, 0);
         due("alike, of another prime", y.compare(2, 1), 0);
+        PairsStand six = ten();
+        six.hold(0, 2, 5);
+        six.hold(1, 2, 5);
+        due("alike, of six numbers", six.compare(0, 1), 0);
     }
 
     // ---- sheets, an image
@@ -1044,10 +1138,12 @@ public final class PromisesTest {
         PairsStand x = new PairsStand();
         for (int s = 0; s < 4; s++) {
             due("a row", x.sheet(s, s % 2, 30), 1);
+            x.cell(s, 0, 9);
             x.cell(s, 29, 8);
             due("read", x.read(s, 29), 8);
             due("again", x.sheet(s, s % 2, 30), 1);
             due("all 0", x.read(s, 29), 0);
+            due("all 0", x.read(s, 0), 0);
             due("of none", x.sheet(s, s % 2, 0), 1);
             due("of none", x.read(s, 0), PLACE);
             due("missing", x.sheet(s, -1, MIN), 1);
@@ -1117,6 +1213,14 @@ public final class PromisesTest {
         }
         due("the last place", x.load(0, 0, 2), 12);
         due("A 0", x.entry(0, 0, 0, 3), -99);
+        due("the next pair's A 0", x.entry(1, 0, 0, 0), 0);
+        due("from 0", x.load(0, 1, 0), 12);
+        due("A 0", x.entry(1, 0, 0, 0), 0);
+        due("A 1", x.entry(1, 0, 1, 0), 99);
+        x.sheet(3, 1, 30);
+        x.cell(3, 29, 44);
+        due("from 18 of 30", x.load(3, 1, 18), 12);
+        due("B 5", x.entry(1, 1, 5, 0), 44);
         due("beyond", x.load(0, 0, 3), PLACE);
         due("-1", x.load(0, 0, -1), PLACE);
         due("MAX", x.load(0, 0, MAX), PLACE);
@@ -1140,6 +1244,12 @@ public final class PromisesTest {
         x.drop();
         x.drop();
         due("the last one is kept", x.back(), 3);
+        PairsStand ten = ten();
+        due("of ten", ten.image(), 10);
+        ten.entry(9, 1, 3, 5);
+        ten.drop();
+        due("of ten", ten.back(), 10);
+        due("of ten", ten.number(9, 1, 3), 1);
     }
 
     private static void back() {
