@@ -474,6 +474,8 @@ public final class PromisesTest {
         x.set(3, 0, 5);
         due("FLAT ones", x.most(), 1);
         due("of ten", ten().most(), 3);
+        due("all stand", edges(7, 6, 0, 1, 2, 3, 4, 5).most(), 3);
+        due("one stands", edges(7, 2, 0, 1).most(), 1);
     }
 
     private static void best() {
@@ -501,6 +503,11 @@ public final class PromisesTest {
         due("none stands: sets", flat.best(1), 1);
         due("none stands: in each", flat.best(2), 0);
         due("none stands: in any", flat.best(3), 0);
+        PairsStand all = edges(7, 6, 0, 1, 2, 3, 4, 5);
+        due("all stand: BEST", all.best(0), 7);
+        due("all stand: sets", all.best(1), 1);
+        due("all stand: in each", all.best(2), 7);
+        due("all stand: in any", all.best(3), 7);
         due("of ten: BEST", ten().best(0), bits(4, 7, 9));
         due("of ten: sets", ten().best(1), 2);
         due("of ten: in each", ten().best(2), bits(9));
@@ -529,6 +536,8 @@ public final class PromisesTest {
         due("all weigh 0", weighted(0, 0, 0, 0, 0).heavy(0), 0);
         due("all weigh 0", weighted(0, 0, 0, 0, 0).heavy(1), 0);
         due("of ten", ten().heavy(0), bits(4, 7, 9));
+        due("all stand", edges(7, 6, 0, 1, 2, 3, 4, 5).heavy(0), 7);
+        due("all stand", edges(7, 6, 0, 1, 2, 3, 4, 5).heavy(1), 3);
         PairsStand ten = ten();
         ten.set(8, 1, 2);
         due("of ten", ten.heavy(0), bits(3, 8, 9));
@@ -598,6 +607,10 @@ public final class PromisesTest {
         for (int p = 0; p < 3; p++) {
             due("one for one is no better", star.better(1 << p), 1 << p);
         }
+        PairsStand all = edges(7, 6, 0, 1, 2, 3, 4, 5);
+        due("all come", all.better(0), 7);
+        due("all come", all.better(bits(1)), 7);
+        due("all are there", all.better(7), 7);
         due("of ten", ten().better(bits(0, 9)), bits(3, 8, 9));
         due("of ten", ten().better(0), bits(3, 8, 9));
         due("of ten", ten().better(bits(4, 7, 9)), bits(4, 7, 9));
