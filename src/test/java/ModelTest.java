@@ -14,13 +14,18 @@ import java.util.TreeSet;
 /**
  * Long runs of drawn calls, on an object and on a model that is written from the document by itself, in
  * other ways (full elimination, whole numbers without bounds, rings that are walked, texts as names): each
- * answer must be the same, and at the end of a run all that can be asked. The draws have fixed seeds.
+ * answer must be the same, up to the last call that the document lets an object be used for. The last ones
+ * are drawn of all that can be asked then. The draws have fixed seeds.
  */
 public final class ModelTest {
-    private static final int RUNS = 420, CALLS = 512;
+    private static final int RUNS = 1500, CALLS = 512, CHANGING = 380;
     private static final Map<String, String> ARGUMENTS = arguments();
     private static final List<Method> CALLS_OF_CLASS = calls();
+    private static final List<String> QUESTIONS = List.of("told", "number", "named", "nameAt", "rank", "stands", "most", "best", "heavy",
+        "queue", "greedy", "better", "table", "half", "root", "claim", "sure", "cover", "cheap", "rays", "ray", "rayOf", "breaks",
+        "feedback", "asPair", "asRay", "compare", "read", "count");
     private static final Map<String, Integer> ANSWERED = new TreeMap<>();
+    private static final Map<Class<?>, Map<String, Method>> FOUND = new HashMap<>();
     private static int wrong = 0;
 
     public static void main(String[] args) throws Exception {
@@ -70,6 +75,17 @@ public final class ModelTest {
         return all;
     }
 
+    private static Map<String, Method> byName(Class<?> face) {
+        Map<String, Method> all = new HashMap<>();
+        for (Method m : face.getDeclaredMethods()) {
+            if (java.lang.reflect.Modifier.isPublic(m.getModifiers())) {
+                m.setAccessible(true);
+                all.put(m.getName(), m);
+            }
+        }
+        return all;
+    }
+
     private static Map<String, String> arguments() {
         Map<String, String> of = new HashMap<>();
         String[] lines = {
@@ -96,6 +112,7 @@ public final class ModelTest {
         final StringBuilder told = new StringBuilder();
         final int entryBound, cellStyle, manyPairs;
         final boolean smallPrimes, keepsField;
+        int used = 0;
 
         Run(int number) {
             this.number = number;
@@ -123,14 +140,16 @@ public final class ModelTest {
                     call("cell", s, i, cell());
                 }
             }
-            for (int c = 0; c < CALLS && wrong == 0; c++) {
+            while (used < CHANGING && wrong == 0) {
                 Method m = CALLS_OF_CLASS.get(random.nextInt(CALLS_OF_CLASS.size()));
-                if (skipped(m.getName())) {
-                    continue;
+                if (!skipped(m.getName())) {
+                    call(m.getName(), drawn(m.getName()));
                 }
-                call(m.getName(), drawn(m.getName()));
             }
-            askAll();
+            while (used < CALLS && wrong == 0) {
+                String question = QUESTIONS.get(random.nextInt(QUESTIONS.size()));
+                call(question, drawn(question));
+            }
         }
 
         /** These would empty or unsettle a run, if they came as often as the others. */
@@ -238,6 +257,7 @@ public final class ModelTest {
             if (wrong != 0) {
                 return;
             }
+            used++;
             String text = name + Arrays.toString(values);
             long got = ask(real, PairsStand.class, name, values);
             long due = ask(model, Model.class, name, values);
@@ -250,51 +270,7 @@ public final class ModelTest {
         }
 
         static long ask(Object of, Class<?> face, String name, Object[] values) throws Exception {
-            for (Method m : face.getDeclaredMethods()) {
-                if (m.getName().equals(name) && java.lang.reflect.Modifier.isPublic(m.getModifiers())) {
-                    m.setAccessible(true);
-                    return ((Number) m.invoke(of, values)).longValue();
-                }
-            }
-            throw new IllegalStateException(name);
-        }
-
-        void askAll() throws Exception {
-            for (int k = -1; k <= 21; k++) {
-                call("queue", k);
-                call("ray", k);
-                call("nameAt", k);
-                call("count", k);
-                call("best", k);
-                call("feedback", k);
-                for (int o = -1; o <= 6; o++) {
-                    call("told", k, o);
-                    call("rayOf", k, o);
-                    call("number", k, 0, o);
-                    call("number", k, 1, o);
-                }
-            }
-            for (int s = 0; s < 4; s++) {
-                call("half", s);
-                call("root", s);
-                for (int i = 0; i < 31; i++) {
-                    call("read", s, i);
-                    call("table", s, i / 6, i % 6);
-                    call("asRay", s, i);
-                    call("asPair", s, i);
-                }
-                for (int axes = 0; axes < 64; axes++) {
-                    call("cover", s, axes);
-                }
-            }
-            for (int set = 0; set < 1024; set++) {
-                call("rank", set);
-                call("stands", set);
-                if (set % 8 == 0) {
-                    call("better", set);
-                    call("breaks", set / 4);
-                }
-            }
+            return ((Number) FOUND.computeIfAbsent(face, ModelTest::byName).get(name).invoke(of, values)).longValue();
         }
     }
 

@@ -163,13 +163,13 @@ public final class PromisesTest {
     }
 
     private static void divided() {
-        PairsStand x = new PairsStand();
         for (int q = 2; q <= 97; q++) {
             if (!isPrime(q)) {
                 continue;
             }
-            x.field(q, 4);
             for (int a = -100; a <= 100; a += 7) {
+                PairsStand x = new PairsStand();
+                x.field(q, 4);
                 for (int b = -100; b <= 100; b++) {
                     int got = x.divided(a, b);
                     if (b % q == 0) {
@@ -180,7 +180,7 @@ public final class PromisesTest {
                 }
             }
         }
-        x.field(7, 4);
+        PairsStand x = new PairsStand();
         due("divided(MAX, MIN)", x.divided(MAX, MIN), 3);
         due("divided(MIN, MAX)", x.divided(MIN, MAX), 5);
         due("divided(0, 3)", x.divided(0, 3), 0);

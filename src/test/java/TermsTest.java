@@ -1,5 +1,6 @@
 import java.math.BigInteger;
 import java.util.List;
+import java.util.Random;
 import java.util.Set;
 
 /** The document's "Terms", sentence by sentence: what each number may be, how many there may be of each thing, each edge. */
@@ -36,6 +37,7 @@ public final class TermsTest {
         sheets();
         hands();
         image();
+        bounds();
         Asking.quotedWhole("Terms");
         Asking.end("terms");
     }
@@ -564,6 +566,14 @@ public final class TermsTest {
         }
         PairsStand four = Asking.edges(97, 4, 0, 1, 0, 2, 0, 3, 1, 2, 1, 3, 2, 3);
         is(Asking.sheet(four, 0, 0, 1, 10, 100, 1000, 10000, 100000), 100000 - 100000 + 100000, "root", 0);
+        for (int signs = 0; signs < 64; signs++) {
+            long[] cells = {2, 9, 3, 50, 7, 4};
+            for (int k = 0; k < 6; k++) {
+                cells[k] = (signs >> k & 1) == 1 ? -cells[k] : cells[k];
+            }
+            PairsStand signed = Asking.edges(97, 4, 0, 1, 0, 2, 0, 3, 1, 2, 1, 3, 2, 3);
+            is(Asking.sheet(signed, 0, 1, cells), cells[0] * cells[5] - cells[1] * cells[4] + cells[2] * cells[3], "root", 0);
+        }
     }
 
     private static void rootNumbers() {
@@ -895,5 +905,59 @@ public final class TermsTest {
         is(outside, 5, "count", 1);
         is(outside, 3, "count", 2);
         is(outside, Asking.text("old"), "nameAt", 0);
+    }
+
+    // ---- what bounds what
+
+    /** Some PAIRS that often share what they are made of, so that the bounds are met from below and from above. */
+    private static PairsStand drawn(Random random) {
+        int[] primes = {2, 3, 7, 97};
+        PairsStand x = Asking.field(primes[random.nextInt(4)], 1 + random.nextInt(6));
+        int pairs = random.nextInt(11);
+        for (int p = 0; p < pairs; p++) {
+            Asking.ask(x, "pair", random.nextInt(6), random.nextInt(4));
+            for (int k = 0; k < 4; k++) {
+                Asking.ask(x, "entry", p, k / 2, random.nextInt(6), random.nextInt(3) - 1);
+            }
+        }
+        return Asking.sheet(x, 0, 1, random.nextInt(9), random.nextInt(9), random.nextLong(), -1, random.nextInt(3), 1, 1);
+    }
+
+    private static void notAbove(String what, long low, long high) {
+        Asking.due(what + ": " + low + " is not above " + high, low <= high ? 1 : 0, 1);
+    }
+
+    private static void bounds() {
+        Random random = new Random(45);
+        for (int run = 0; run < 300; run++) {
+            PairsStand x = drawn(random);
+            long most = Asking.ask(x, "most");
+            Asking.says("What it is", "skew tables of told and of drawn numbers, whose half rank is never above the most;");
+            notAbove("half", Asking.ask(x, "half", 0), most);
+            notAbove("claim", Asking.ask(x, "claim", run, 20), most);
+            Asking.says("What it is", "covers that bound the most;");
+            notAbove("one class", most, Asking.ask(x, "cheap", 0, 0));
+            notAbove("own classes", most, Asking.ask(x, "cheap", 1, 0));
+            long wide = Asking.ask(x, "count", 2);
+            for (int axes = 0; axes < 1 << wide; axes += 5) {
+                notAbove("cover", most, Asking.ask(x, "cover", 0, axes));
+            }
+            Asking.says("What it is", "the most that stand, the heaviest, the greedy ones out of a queue, those that are bettered by two for one;");
+            int taken = (int) Asking.ask(x, "greedy", 0);
+            int bettered = (int) Asking.ask(x, "better", taken);
+            is(x, 1, "stands", taken);
+            is(x, 1, "stands", bettered);
+            is(x, 1, "stands", (int) Asking.ask(x, "best", 0));
+            is(x, 1, "stands", (int) Asking.ask(x, "heavy", 0));
+            notAbove("greedy", Integer.bitCount(taken), Integer.bitCount(bettered));
+            notAbove("bettered", Integer.bitCount(bettered), most);
+            notAbove("greedy", Asking.ask(x, "greedy", 1), Asking.ask(x, "heavy", 1));
+            Asking.due("best", Integer.bitCount((int) Asking.ask(x, "best", 0)), most);
+            Asking.says("What it is", "rays that are unlike, in order;");
+            long rays = Asking.ask(x, "rays");
+            for (int k = 1; k < rays; k++) {
+                notAbove("ray", Asking.ask(x, "ray", k - 1) + 1, Asking.ask(x, "ray", k));
+            }
+        }
     }
 }
