@@ -22,6 +22,7 @@ public final class PairsStand {
     private static final int SORT_MISSING = -1, SORT_INTS = 0, SORT_LONGS = 1;
     private static final int HOLDS_NOTHING = 0, HOLDS_PAIR = 1, HOLDS_RAY = 2;
     private static final long NO_NAME = 0;
+    private static final long LEAST_LONG = 1L << 63;
 
     private final Kept now = new Kept();
     private final Kept kept = new Kept();
@@ -1182,7 +1183,7 @@ public final class PairsStand {
         private long product(long a, long b) {
             long times = a * b;
             // The least long, turned, is itself: dividing by -1 would not show that it is too great.
-            isMuch |= b == -1 ? a == Long.MIN_VALUE : b != 0 && times / b != a;
+            isMuch |= b == -1 ? a == LEAST_LONG : b != 0 && times / b != a;
             return times;
         }
     }

@@ -8,6 +8,7 @@ import java.nio.file.Files;
 import java.nio.file.Path;
 import java.util.ArrayList;
 import java.util.Arrays;
+import java.util.HashMap;
 import java.util.HashSet;
 import java.util.IdentityHashMap;
 import java.util.List;
@@ -29,6 +30,7 @@ public final class RulesTest {
         + "int compare(int,int);int sheet(int,int,int);int cell(int,int,long);long read(int,int);int load(int,int,int);"
         + "int image();int back();int count(int)";
     private static final String CONSTANTS = "NONE -1;BAD -2;STATE -3;FULL -4;MUCH -5;NOTHING -11;PLACE -12;KIND -13;SIZE -14";
+    private static final Pattern HEAD = Pattern.compile("(?m)^(    |        )(?:(?:public|private|static) )*[a-z]+(?:\\[\\])? ([A-Za-z]+)\\([^)]*\\) \\{$");
     private static int wrong = 0;
 
     private static void must(boolean holds, String what) {
@@ -44,6 +46,7 @@ public final class RulesTest {
         String text = withoutComments(Files.readString(SOURCE));
         words(text);
         lengths(text);
+        depths(text);
         roomOfAnObject();
         roomOfCalls();
         System.out.println(wrong == 0 ? "rules: all are kept" : "rules: " + wrong + " are not kept");
@@ -129,19 +132,24 @@ public final class RulesTest {
         for (String sign : new String[] {"->", "::", "\"", "@", "Exact"}) {
             must(!text.contains(sign), "the sign " + sign);
         }
-        Set<String> library = new TreeSet<>();
-        Matcher call = Pattern.compile("\\b([A-Z][a-z][A-Za-z]*)\\.([A-Za-z_]+)").matcher(text);
+        library(text);
+    }
+
+    /** Rule 4 lists functions of Integer, Long, Math and System: their constants (Long.MIN_VALUE) are not on it. */
+    private static void library(String text) {
+        Set<String> used = new TreeSet<>();
+        Matcher call = Pattern.compile("\\b([A-Z][a-z][A-Za-z]*)\\.([A-Za-z_]+\\(?)").matcher(text);
         while (call.find()) {
-            library.add(call.group(1) + "." + call.group(2));
+            used.add(call.group(1) + "." + call.group(2));
         }
-        library.removeAll(Set.of("Rays.NO_RAY"));
-        Set<String> allowed = Set.of("Integer.bitCount", "Integer.compare", "Long.MIN_VALUE", "Math.max", "Math.min", "System.arraycopy");
-        must(allowed.containsAll(library), "the library, not: " + library);
+        used.removeAll(Set.of("Rays.NO_RAY"));
+        Set<String> allowed = Set.of("Integer.bitCount(", "Integer.compare(", "Math.max(", "Math.min(", "System.arraycopy(");
+        must(allowed.containsAll(used), "the library, not: " + used);
     }
 
     /** A method's head stands 4 signs in (8 in a class inside), and so does the brace that ends it. */
     private static void lengths(String text) {
-        Matcher method = Pattern.compile("(?m)^(    |        )(?:(?:public|private|static) )*[a-z]+(?:\\[\\])? [A-Za-z]+\\([^)]*\\) \\{$").matcher(text);
+        Matcher method = HEAD.matcher(text);
         int found = 0;
         while (method.find()) {
             found++;
@@ -149,6 +157,45 @@ public final class RulesTest {
             must(end > 0 && text.substring(method.start(), end).split("\n").length <= 60, "sixty lines: " + method.group());
         }
         must(found > 100, "the methods that were looked at, not: " + found);
+    }
+
+    /**
+     * Rule 11: calls that are no recursion go at most eight deep; rule 8: what calls itself takes its depth along. Methods of one
+     * name in several classes are taken for one, so that what is found is never too little.
+     */
+    private static void depths(String text) {
+        Map<String, Set<String>> calls = new HashMap<>();
+        Matcher head = HEAD.matcher(text);
+        while (head.find()) {
+            int end = text.indexOf("\n" + head.group(1) + "}", head.end());
+            Set<String> called = calls.computeIfAbsent(head.group(2), name -> new TreeSet<>());
+            Matcher call = Pattern.compile("(?<!Integer\\.|Math\\.|System\\.)\\b([a-z][A-Za-z]*)\\(").matcher(text.substring(head.end(), Math.max(head.end(), end)));
+            while (call.find()) {
+                called.add(call.group(1));
+            }
+        }
+        Set<String> callThemselves = new TreeSet<>();
+        for (String name : calls.keySet()) {
+            if (calls.get(name).remove(name)) {
+                callThemselves.add(name);
+            }
+        }
+        must(callThemselves.equals(Set.of("ofPlaces")), "one that calls itself, not: " + callThemselves);
+        must(text.contains("long ofPlaces(int left, int depth)") && text.contains("depth + 1)"), "the depth is carried");
+        for (String name : calls.keySet()) {
+            must(depthOf(name, calls, 0) <= 8, "eight deep: " + name + ", not: " + depthOf(name, calls, 0));
+        }
+    }
+
+    private static int depthOf(String name, Map<String, Set<String>> calls, int open) {
+        int deepest = 0;
+        if (open > 30) {
+            return open;
+        }
+        for (String called : calls.getOrDefault(name, Set.of())) {
+            deepest = calls.containsKey(called) ? Math.max(deepest, depthOf(called, calls, open + 1)) : deepest;
+        }
+        return deepest + 1;
     }
 
     private static void roomOfAnObject() throws Exception {
