@@ -30,6 +30,8 @@ public final class RulesTest {
         + "int compare(int,int);int sheet(int,int,int);int cell(int,int,long);long read(int,int);int load(int,int,int);"
         + "int image();int back();int count(int)";
     private static final String CONSTANTS = "NONE -1;BAD -2;STATE -3;FULL -4;MUCH -5;NOTHING -11;PLACE -12;KIND -13;SIZE -14";
+    private static final Set<Class<?>> STATIC = Set.of(int.class, long.class, boolean.class, char.class, String.class,
+        int[].class, long[].class, char[].class, byte[].class);
     private static final Pattern HEAD = Pattern.compile("(?m)^(    |        )(?:(?:public|private|static) )*[a-z]+(?:\\[\\])? ([A-Za-z]+)\\([^)]*\\) \\{$");
     private static int wrong = 0;
 
@@ -103,6 +105,7 @@ public final class RulesTest {
             for (Field f : c.getDeclaredFields()) {
                 fields += Modifier.isStatic(f.getModifiers()) ? 0 : 1;
                 must(!Modifier.isStatic(f.getModifiers()) || Modifier.isFinal(f.getModifiers()), "static and not final: " + f);
+                must(!Modifier.isStatic(f.getModifiers()) || STATIC.contains(f.getType()), "of no static field's type: " + f);
             }
             must(fields <= 20, "twenty fields: " + c);
             for (Method m : c.getDeclaredMethods()) {
@@ -132,6 +135,8 @@ public final class RulesTest {
         for (String sign : new String[] {"->", "::", "\"", "@", "Exact"}) {
             must(!text.contains(sign), "the sign " + sign);
         }
+        must(!Pattern.compile("static\\s*\\{").matcher(text).find(), "no static block");
+        must(!text.contains("[]["), "arrays of one dimension");
         library(text);
     }
 
